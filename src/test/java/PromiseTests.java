@@ -16,11 +16,13 @@ public final class PromiseTests {
         promise2Feed();
         promise3End();
         promise4Strait();
+        promise4OldThingsAreGone();
         promise4StraitFaults();
         promise5Convention();
         promise5ConventionFaults();
         promise5Bounds();
         promise5Values();
+        promise5OldTextsAreGone();
         promise6Fault();
         promise7Ship();
         promise8Cell();
@@ -244,8 +246,46 @@ public final class PromiseTests {
         due("20 cells and 8 lands", strait(x, twenty + "land a;land b;land c;land d;land e;land f;land g;land abcdefgh;"), 28);
     }
 
+    private static void promise4OldThingsAreGone() {
+        promise = 4;
+        String gorge = "cell depth 30 bend 0 flow 0; cell depth 30 bend 0 flow 0 narrow; land a shore;";
+        StraitHouse x = new StraitHouse();
+        for (int i = 0; i < 3; i++) {
+            strait(x, gorge);
+            convention(x, 0, "may peace if 1; dues 7;");
+            x.ship(0, 1, 10, 1, 0, 0, 0, false);
+            x.ask(0, 5, true, 0);
+            x.sight(5, 6, true, -1);
+            x.gaps(10, 0);
+            due("a plan", x.plan(0, 5, 2, 0), 12);
+            due("its dues", x.year(0, 0, 0), 7);
+            due("its sighting", x.could(0, 0, 0), 1);
+            due("a new strait", strait(x, "cell depth 30 bend 0 flow 0; land a;"), 2);
+            due("no plan any more", x.plan(0, 5, 0, 0), 0);
+            due("no dues any more", x.year(0, 0, 0), 0);
+            due("no sighting any more", x.readings(0, 5, 0), 1);
+            convention(x, 0, "may peace if not shore;");
+            x.ship(0, 1, 10, 1, 0, 0, 0, false);
+            x.ask(0, 5, true, 0);
+            due("let", x.plan(0, 5, 0, 0), 1);
+            due("without a gorge", x.plan(0, 5, 2, 0), 0);
+            due("without a gorge", x.goes(0, 5, 0, 2, 0), 0);
+            strait(x, "cell depth 30 bend 0 flow 0; land a;");
+            convention(x, 0, "may peace if not shore;");
+            x.ship(0, 1, 10, 1, 0, 0, 0, false);
+            x.ask(0, 5, true, 0);
+            due("without a gorge still", x.plan(0, 5, 2, 0), 0);
+            due("begins", x.goes(0, 5, 0, 2, 0), 0);
+        }
+    }
+
     private static void promise4StraitFaults() {
         promise = 4;
+        straitFault("cell depth ;", 2, 11);
+        straitFault("cell depth 5 bend 1 flow;", 2, 24);
+        straitFault(times(";", 1200), 2, 0);
+        straitFault(times(" ", 1199) + "?", 1, 1199);
+        straitFault(times(" ", 1196) + "land", 2, 1200);
         straitFault("?", 1, 0);
         straitFault("land a;\t", 1, 7);
         straitFault("land A;", 1, 5);
@@ -315,6 +355,8 @@ public final class PromiseTests {
         textFault("may shore if 1;", 2, 4);
         textFault("may peace 1;", 2, 10);
         textFault("sum tons;", 2, 4);
+        textFault("sum;", 2, 3);
+        textFault("may peace if;", 2, 12);
         textFault("sum 1 + 1;", 2, 6);
         textFault("dues 1 < 2 < 3;", 2, 11);
         textFault("dues 1 + not 1;", 2, 9);
@@ -368,6 +410,10 @@ public final class PromiseTests {
         textFault(full + "kind a is 1;kind b is 1;kind c is north;", 2, full.length() + 34);
         textStands("dues " + times("(", 7) + "1" + times(")", 7) + ";", 1);
         textFault("dues " + times("(", 8) + "1" + times(")", 8) + ";", 2, 5 + 7);
+        for (String line : new String[] {"kind a is ", "may war if "}) {
+            textStands(line + times("(", 7) + "1" + times(")", 7) + ";", 1);
+            textFault(line + times("(", 8) + "1" + times(")", 8) + ";", 2, line.length() + 7);
+        }
         textStands("dues " + times("not ", 7) + "1;", 1);
         textFault("dues " + times("not ", 8) + "1;", 2, 5 + 28);
         textStands("dues " + times("not(", 3) + "not 1" + times(")", 3) + ";", 1);
@@ -427,6 +473,39 @@ public final class PromiseTests {
         x.ask(0, 1, false, 0);
         due("north, of a shore", x.dues(0, 0, 0), 3);
         due("south, of a shore", x.dues(0, 1, 0), 2);
+    }
+
+    private static void promise5OldTextsAreGone() {
+        promise = 5;
+        StraitHouse x = house(STRAIT);
+        x.ship(1, 9999, 100, 5, 0, 0, 0, true);
+        x.ship(1, 1, 100, 5, 0, 0, 0, true);
+        x.ask(0, 0, true, 0);
+        x.ask(1, 0, true, 0);
+        String full = "kind a is 1; may peace if 1; sum 1; each 1; stay 0; notice 50; dues 5" + times("+1", 97) + ";";
+        for (int i = 0; i < 12; i++) {
+            due("a full text", convention(x, 0, full), 7);
+            due("its notice", x.reason(0, 0, 0), 3);
+            due("its kind", x.kind(0, 0), 0);
+            due("another", convention(x, 0, "may peace if 1;"), 1);
+            due("notice 0 if not told", x.reason(0, 0, 0), 0);
+            due("sum 9999 if not told", x.reason(0, 1, 0), 5);
+            due("dues 0 if not told", x.dues(0, 0, 0), 0);
+            due("stay 99 if not told", x.inside(0, 99, 2, 0), 0);
+            due("no kind", x.kind(0, 0), -1);
+            due("none", convention(x, 0, "dues 1;"), 1);
+            due("no may line", x.reason(0, 0, 0), 4);
+        }
+        x = house(STRAIT, "kind none is 0; kind big is tons > 40; kind gun is guns > 0; may peace if kind big or kind gun; dues kind big * 2 + kind gun;");
+        x.ship(0, 50, 100, 5, 9, 0, 0, false);
+        x.ship(0, 30, 100, 5, 9, 0, 0, false);
+        x.ship(0, 30, 100, 5, 0, 0, 0, false);
+        for (int i = 0; i < 3; i++) {
+            x.ask(i, 0, true, 0);
+        }
+        due("kind big", x.dues(0, 0, 0), 2);
+        due("kind gun", x.dues(0, 1, 0), 1);
+        due("no kind", x.reason(0, 2, 0), 4);
     }
 
     private static void promise6Fault() {
@@ -510,6 +589,13 @@ public final class PromiseTests {
         due("north", x.hits(3, true), 1);
         due("no ship", x.hits(4, true), -1);
         due("no ship", x.hits(-1, true), -1);
+        x = house("cell depth 99 bend 5 back 5;cell depth 99 bend 7 flow 3;land a;");
+        x.ship(0, 1, 300, 5, 0, 0, 0, false);
+        due("1500 and none of what runs against it", x.hits(0, true), 1);
+        x.ship(0, 1, 193, 5, 0, 0, 0, false);
+        due("1501", x.hits(1, true), 1);
+        x.ship(0, 1, 192, 5, 0, 0, 0, false);
+        due("1494", x.hits(2, true), -1);
         x = house("cell depth 99 bend 3 back 7;land a;");
         x.ship(0, 1, 384, 5, 0, 0, 0, false);
         due("1152 and 350 going south", x.hits(0, false), 0);
@@ -696,6 +782,9 @@ public final class PromiseTests {
         due("0: threat, a shore's", reasonOf(x, 3, 3, false, 2), 0);
         x.turn(4, 2);
         due("4: war", reasonOf(x, 0, 4, false, 2), 4);
+        convention(x, 3, "may war if north; may peace if 1; may war if 1;");
+        due("0: war", x.reason(3, x.about(3) - 1, 0), 0);
+        due("its may line", x.why(3, x.about(3) - 1, 0), 2);
         due("no passage but a case", x.reason(0, x.about(3) - 2, 0), -1);
         due("no fact", x.reason(0, x.about(3), 0), -1);
         due("no fact", x.reason(0, -1, 0), -1);
@@ -861,6 +950,9 @@ public final class PromiseTests {
         x.sight(0, 40, true, -1);
         due("gap 10 at first", x.goes(0, 0, 1, 2, 0), 10);
         due("blur 30 at first", x.could(0, 0, 0), 2);
+        x.sight(0, 41, true, -1);
+        due("31 minutes are more", x.could(0, 1, 0), 0);
+        x.unsight(1);
         due("gap 0", x.gaps(0, 5), false);
         due("gap 61", x.gaps(61, 5), false);
         due("blur -1", x.gaps(20, -1), false);
@@ -905,7 +997,10 @@ public final class PromiseTests {
         due("another day", x.plan(0, 6, 1, 0), 0);
         due("another day", x.plan(0, 6, 2, 0), 0);
         due("an empty shelf", x.plan(1, 5, 0, 0), 0);
+        due("the other shelf again", x.plan(0, 5, 0, 0), 4);
         due("not known", x.plan(0, 5, 0, -1), 0);
+        due("known again", x.plan(0, 5, 0, 0), 4);
+        due("another day", x.plan(0, 0, 0, 0), 2);
         due("no what", x.plan(0, 5, 3, 0), -1);
         due("no what", x.plan(0, 5, -1, 0), -1);
         due("no day", x.plan(0, -1, 0, 0), -1);
@@ -1189,6 +1284,17 @@ public final class PromiseTests {
         convention(x, 2, "kind y is tons > 1;");
         convention(x, 3, "kind z is tons > 1;");
         due("by number", x.part(2, 3, 0), -2);
+        convention(x, 2, "kind z is decks > 5 or war > 1 or guns > 20 or tons > 99;");
+        convention(x, 3, "");
+        due("no such ships", x.part(2, 3, 0), -2);
+        convention(x, 2, "kind z is load;");
+        x.ship(0, 1, 10, 1, 0, 0, 9, false);
+        due("a load", x.kind(2, 0), 0);
+        due("no load", x.part(2, 3, 0), -2);
+        strait(x, "land a shore;");
+        convention(x, 0, "kind a is shore;");
+        due("of one land", x.part(0, 1, 0), 0);
+        strait(x, "");
         strait(x, "");
         convention(x, 0, "kind a is shore;");
         due("without a land shore is 0", x.part(0, 1, 0), -2);
