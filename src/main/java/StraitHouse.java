@@ -89,7 +89,7 @@ public final class StraitHouse {
     private final Diary sightings = new Diary(MOST_SIGHTINGS);
     private final Evaluator evaluator = new Evaluator();
     private final Ledger ledger = new Ledger();
-    private final Plan order = new Plan();
+    private final Plan dayPlan = new Plan();
     private final Matching matching = new Matching();
     private final Parting parting = new Parting();
     private int time;
@@ -361,11 +361,11 @@ public final class StraitHouse {
         openPlan(shelf, day, k);
         switch (what) {
             case 0:
-                return order.count;
+                return dayPlan.count;
             case 1:
-                return order.waiting;
+                return dayPlan.waiting;
             case 2:
-                return order.lastEnd();
+                return dayPlan.lastEnd();
             default:
                 return NONE;
         }
@@ -376,20 +376,20 @@ public final class StraitHouse {
             return NONE;
         }
         openPlan(shelf, day, k);
-        if (!isWithin(n, 0, order.count - 1)) {
+        if (!isWithin(n, 0, dayPlan.count - 1)) {
             return NONE;
         }
         switch (what) {
             case 0:
-                return order.facts[n];
+                return dayPlan.facts[n];
             case 1:
-                return order.ready[n];
+                return dayPlan.ready[n];
             case 2:
-                return order.begin[n];
+                return dayPlan.begin[n];
             case 3:
-                return order.begin[n] + order.through[n];
+                return dayPlan.begin[n] + dayPlan.through[n];
             case 4:
-                return order.place[n];
+                return dayPlan.place[n];
             default:
                 return NONE;
         }
@@ -444,8 +444,7 @@ public final class StraitHouse {
         if (!isShelf(a) || !isShelf(b) || !isWithin(what, 0, 5) || a == b) {
             return NO_SUCH;
         }
-        parting.open(a, b, changes);
-        if (!parting.known) {
+        if (parting.turnTo(a, b, changes)) {
             parting.search(shelves[a], shelves[b], evaluator, strait);
         }
         return parting.found ? parting.answers[what] : NO_SUCH;
@@ -493,18 +492,16 @@ public final class StraitHouse {
     }
 
     private void openLedger(int shelf, int k) {
-        ledger.open(shelf, k, changes);
-        if (!ledger.known) {
+        if (ledger.turnTo(shelf, k, changes)) {
             ledger.judgeAll(facts, ships, strait, shelves[shelf], evaluator);
         }
     }
 
     private void openPlan(int shelf, int day, int k) {
         openLedger(shelf, k);
-        order.open(shelf, day, k, changes);
-        if (!order.known) {
-            order.takeDay(ledger, facts, ships, strait);
-            order.arrange(gap);
+        if (dayPlan.turnTo(shelf, day, k, changes)) {
+            dayPlan.takeDay(ledger, facts, ships, strait);
+            dayPlan.arrange(gap);
         }
     }
 
@@ -520,9 +517,9 @@ public final class StraitHouse {
     /** The PASSAGES of the PLAN, as bits, that a SIGHTING MAY be. */
     private int placesLike(int sighting, int shelf) {
         int places = 0;
-        for (int p = 0; p < order.count; p++) {
-            boolean near = Math.abs(sightings.number[sighting] - order.begin[p]) <= blur;
-            if (near && order.north[p] == sightings.north[sighting] && isOfKind(order.facts[p], sightings.subject[sighting], shelf)) {
+        for (int p = 0; p < dayPlan.count; p++) {
+            boolean near = Math.abs(sightings.number[sighting] - dayPlan.begin[p]) <= blur;
+            if (near && dayPlan.north[p] == sightings.north[sighting] && isOfKind(dayPlan.facts[p], sightings.subject[sighting], shelf)) {
                 places |= 1 << p;
             }
         }
@@ -902,8 +899,8 @@ public final class StraitHouse {
         final int[] mayFrom = new int[MOST_MAYS];
         final int[] mayTo = new int[MOST_MAYS];
         int mays;
-        int most;
-        int mostEach;
+        int mostTons;
+        int mostTonsEach;
         int stay;
         int leastNotice;
         int duesFrom;
@@ -919,8 +916,8 @@ public final class StraitHouse {
             kinds = 0;
             kindAsks = 0;
             mays = 0;
-            most = 9999;
-            mostEach = 9999;
+            mostTons = 9999;
+            mostTonsEach = 9999;
             stay = 99;
             leastNotice = 0;
             duesFrom = 0;
@@ -1039,10 +1036,10 @@ public final class StraitHouse {
             tokens.demand(';');
             switch (word) {
                 case SUM:
-                    made.most = number;
+                    made.mostTons = number;
                     break;
                 case EACH:
-                    made.mostEach = number;
+                    made.mostTonsEach = number;
                     break;
                 case STAY:
                     made.stay = number;
@@ -1359,7 +1356,6 @@ public final class StraitHouse {
         private Strait strait;
         private Convention convention;
         private Evaluator evaluator;
-        boolean known;
         private int shelf;
         private int k;
         private int changes = NONE;
@@ -1373,11 +1369,13 @@ public final class StraitHouse {
         // The day of a SHIP's last way north.
         final int[] since = new int[MOST_SHIPS];
 
-        void open(int wantedShelf, int wantedK, int wantedChanges) {
-            known = shelf == wantedShelf && k == wantedK && changes == wantedChanges;
+        /** True if it holds the answers of another page, so that all must be judged anew. */
+        boolean turnTo(int wantedShelf, int wantedK, int wantedChanges) {
+            boolean same = shelf == wantedShelf && k == wantedK && changes == wantedChanges;
             shelf = wantedShelf;
             k = wantedK;
             changes = wantedChanges;
+            return !same;
         }
 
         void judgeAll(Diary diary, Ship[] fleet, Strait cells, Convention text, Evaluator scales) {
@@ -1465,10 +1463,10 @@ public final class StraitHouse {
             if (!north || !ship.isForeignWarship()) {
                 return 0;
             }
-            if (tonsInside(NONE) + ship.tons > convention.most) {
+            if (tonsInside(NONE) + ship.tons > convention.mostTons) {
                 return 5;
             }
-            return tonsInside(ship.land) + ship.tons > convention.mostEach ? 6 : 0;
+            return tonsInside(ship.land) + ship.tons > convention.mostTonsEach ? 6 : 0;
         }
 
         /** Of all LANDS for NONE. */
@@ -1502,7 +1500,6 @@ public final class StraitHouse {
 
     /** The PASSAGES of a day that are LET, and their ORDER through THE GORGE. */
     private static final class Plan {
-        boolean known;
         private int shelf;
         private int day;
         private int k;
@@ -1521,12 +1518,14 @@ public final class StraitHouse {
         private final int[] triedBegin = new int[MOST_ON_A_DAY];
         private final int[] triedPlace = new int[MOST_ON_A_DAY];
 
-        void open(int wantedShelf, int wantedDay, int wantedK, int wantedChanges) {
-            known = shelf == wantedShelf && day == wantedDay && k == wantedK && changes == wantedChanges;
+        /** True if it holds another PLAN, so that this one must be made. */
+        boolean turnTo(int wantedShelf, int wantedDay, int wantedK, int wantedChanges) {
+            boolean same = shelf == wantedShelf && day == wantedDay && k == wantedK && changes == wantedChanges;
             shelf = wantedShelf;
             day = wantedDay;
             k = wantedK;
             changes = wantedChanges;
+            return !same;
         }
 
         void takeDay(Ledger ledger, Diary diary, Ship[] ships, Strait strait) {
@@ -1687,7 +1686,6 @@ public final class StraitHouse {
 
     /** The least SHIP on which two CONVENTIONS PART. */
     private static final class Parting {
-        boolean known;
         boolean found;
         // Tons, guns, decks, war, and the KINDS by both.
         final int[] answers = new int[6];
@@ -1698,11 +1696,13 @@ public final class StraitHouse {
         private Convention one;
         private Convention other;
 
-        void open(int a, int b, int wantedChanges) {
-            known = first == a && second == b && changes == wantedChanges;
+        /** True if it holds the answers for two others, so that these must be searched. */
+        boolean turnTo(int a, int b, int wantedChanges) {
+            boolean same = first == a && second == b && changes == wantedChanges;
             first = a;
             second = b;
             changes = wantedChanges;
+            return !same;
         }
 
         void search(Convention a, Convention b, Evaluator scales, Strait strait) {
