@@ -553,6 +553,8 @@ public final class PromiseTests {
             due("a number", x.ship(1, 50, 100, 5, 1, 1, 1, true), i);
         }
         due("a 21st", x.ship(1, 50, 100, 5, 1, 1, 1, true), -1);
+        due("20 ships", x.inside(0, 999, 1, 0), 0);
+        due("the last one", x.hits(19, true), -1);
         due("ships", x.about(2), 20);
     }
 
@@ -684,6 +686,9 @@ public final class PromiseTests {
         due("a 201st", x.ask(0, 0, true, 0), -1);
         due("facts", x.about(3), 200);
         due("the last one of 200", x.reason(0, 199, 0), 0);
+        due("200 facts", x.peace(999, 0), 0);
+        due("200 facts", x.year(0, 2, 0), 0);
+        due("200 facts", x.plan(0, 199, 0, 0), 1);
         due("by days", x.reason(0, 2, 0), 1);
     }
 
@@ -950,9 +955,9 @@ public final class PromiseTests {
         x.sight(0, 40, true, -1);
         due("gap 10 at first", x.goes(0, 0, 1, 2, 0), 10);
         due("blur 30 at first", x.could(0, 0, 0), 2);
-        x.sight(0, 41, true, -1);
+        x.ask(0, 3, false, 0);
+        x.sight(3, 31, false, -1);
         due("31 minutes are more", x.could(0, 1, 0), 0);
-        x.unsight(1);
         due("gap 0", x.gaps(0, 5), false);
         due("gap 61", x.gaps(61, 5), false);
         due("blur -1", x.gaps(20, -1), false);
@@ -1117,6 +1122,8 @@ public final class PromiseTests {
             }
         }
         due("a 61st", x.sight(999, 0, true, 0), -1);
+        due("60 sightings", x.readings(0, 7, 0), 0);
+        due("the last one", x.could(0, 59, 0), 0);
         due("sightings", x.about(4), 60);
     }
 
@@ -1263,6 +1270,13 @@ public final class PromiseTests {
         due("the other way", x.part(1, 0, 4), -1);
         due("the other way", x.part(1, 0, 5), 1);
         due("tons", x.part(1, 3, 0), 41);
+        due("two others", x.part(0, 3, 1), 4);
+        due("the same first", x.part(0, 2, 0), 0);
+        due("the same second", x.part(1, 2, 0), 41);
+        due("the same second", x.part(0, 2, 3), 1);
+        due("the same first", x.part(0, 1, 5), -1);
+        due("the same first", x.part(0, 2, 5), -1);
+        due("and back", x.part(1, 2, 4), 0);
         due("above 99 tons they may differ", x.part(2, 3, 0), -2);
         due("itself", x.part(0, 0, 0), -2);
         due("no what", x.part(0, 1, 6), -2);
