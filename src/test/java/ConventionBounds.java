@@ -32,10 +32,12 @@ public final class ConventionBounds extends Checks {
         grammarOfOnes();
         intsWrap();
         onesAndZeros();
+        wordsOfAPassage();
         firstKindWhoseEIsNotZero();
         kindNameInLines();
         notTold();
         conventionWithAFault();
+        textsBeforeAreGone();
         faults();
         kindAnswers();
         finish();
@@ -519,6 +521,21 @@ public final class ConventionBounds extends Checks {
         holds("0-1", 0);
     }
 
+    private static void wordsOfAPassage() {
+        says("north | notice | day");
+        holds("north", 1);
+        holds("notice", 34);
+        holds("day", 12);
+        StraitHouse x = house(STRAIT, "may peace if 1; dues 5 + north;", "may peace if 1; dues day * 100 + notice;");
+        x.ship(0, 1, 10, 1, 0, 0, 0, false);
+        x.ask(0, 0, true, 0);
+        x.ask(0, 999, false, 99);
+        due("north", x.dues(0, 0, 0), 6);
+        due("south", x.dues(0, 1, 0), 5);
+        due("the least", x.dues(1, 0, 0), 0);
+        due("the greatest", x.dues(1, 1, 0), 99999);
+    }
+
     private static void firstKindWhoseEIsNotZero() {
         says("The KIND of a SHIP is the first whose e is not 0; NONE if none is");
         StraitHouse x = house(STRAIT, "kind a is tons - 5; kind b is tons - 4; kind c is 1;", "kind a is tons > 5; kind b is tons > 4;", SIX_KINDS, "");
@@ -544,9 +561,11 @@ public final class ConventionBounds extends Checks {
         x.ship(0, 5, 10, 1, 0, 0, 0, false);
         for (int ship = 0; ship < 3; ship++) {
             x.ask(ship, 0, true, 0);
-            due("its kind", x.kind(0, ship), ship);
+        }
+        for (int ship = 0; ship < 3; ship++) {
             due("by its kind", x.why(0, ship, 0), ship);
             due("its kind alone is 1", x.dues(0, ship, 0), 10 + (1 << ship));
+            due("its kind", x.kind(0, ship), ship);
         }
         x = house(STRAIT, "kind a is 0; kind b is kind a; kind c is kind a = 0;");
         x.ship(0, 6, 10, 1, 1, 0, 0, false);
@@ -597,6 +616,30 @@ public final class ConventionBounds extends Checks {
                 due("it stays", is.substring(0, is.indexOf("fault")), was.substring(0, was.indexOf("fault")));
                 due("it stays", lookOn(x), lookOn(same));
             }
+        }
+    }
+
+    private static void textsBeforeAreGone() {
+        says("The TAPE is the CONVENTION of a SHELF");
+        StraitHouse x = house(STRAIT);
+        x.ship(1, 50, 10, 1, 0, 0, 0, true);
+        x.ask(0, 0, true, 5);
+        String rich = SIX_KINDS + times("may peace if 1;", 8) + "sum 40;each 30;stay 1;notice 5;dues 7" + times("+1", 84) + ";";
+        for (int i = 0; i < 8; i++) {
+            due("lines", convention(x, 0, rich), 19);
+            due("its kind", x.kind(0, 0), 5);
+            due("its sum", x.reason(0, 0, 0), 5);
+            due("its may line", x.why(0, 0, 0), 0);
+            for (int again = 0; again < 2; again++) {
+                due("lines", convention(x, 0, "may war if 1;"), 1);
+                due("no kind", x.kind(0, 0), -1);
+                due("no may line", x.reason(0, 0, 0), 4);
+            }
+            due("lines", convention(x, 0, "may peace if 1;"), 1);
+            due("no sum, each, notice", x.reason(0, 0, 0), 0);
+            due("no dues", x.dues(0, 0, 0), 0);
+            due("no stay", x.inside(0, 99, 2, 0), 0);
+            due("on that shelf alone", x.about(11) + x.about(12) + x.about(13), 0);
         }
     }
 

@@ -119,7 +119,11 @@ public final class FactBounds extends Checks {
     private static void untell() {
         says("A FACT is UNTOLD: true");
         StraitHouse x = full();
+        due("it counts", x.reason(0, 0, 7), 0);
+        due("its dues count", x.year(0, 0, 7), x.dues(0, 0, 7) + x.dues(0, 2, 7) + x.dues(0, 5, 7));
         due("the first", x.untell(0), true);
+        due("it counts no more", x.reason(0, 0, 7), -1);
+        due("it goes no more", x.goes(0, 10, 0, 0, 7), 1);
         due("a case", x.untell(4), true);
         due("the last", x.untell(6), true);
         due("it counts no more", x.reason(0, 0, 7), -1);

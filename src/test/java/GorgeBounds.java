@@ -17,7 +17,9 @@ public final class GorgeBounds extends Checks {
         endsNoSooner();
         allAheadInTheOrder();
         leastWaiting();
+        readySooner();
         firstOfLikeOnes();
+        plansOfOthers();
         planAnswers();
         goesAnswers();
         sightingsThatCanBe();
@@ -311,6 +313,47 @@ public final class GorgeBounds extends Checks {
         x = meet(NARROW, 60, 50, 50, 50, 50, 50, 50, 50, 50);
         due("8 with the greatest gap", x.plan(0, DAY, 1, 0), 60 * 28);
         due("the last end", x.plan(0, DAY, 2, 0), 426);
+    }
+
+    private static void readySooner() {
+        says("not ahead of its READY");
+        // All need 1 minute in THE GORGE; the first by number comes to it last.
+        String quick = "cell depth 40 bend 0 flow 9 narrow;";
+        StraitHouse x = meet(WIDE + quick, 10, 400, 50);
+        dueBegins("ready at 10 and 6", x, 16, 6);
+        duePlaces("ready at 10 and 6", x, 1, 0);
+        due("waiting", x.plan(0, DAY, 1, 0), 6);
+        x = meet(WIDE + quick, 4, 400, 50);
+        dueBegins("as ready as the gap wants", x, 10, 6);
+        due("no waiting", x.plan(0, DAY, 1, 0), 0);
+        x = meet(WIDE + quick, 5, 400, 50);
+        dueBegins("one minute less", x, 11, 6);
+        due("one waits", x.plan(0, DAY, 1, 0), 1);
+        x = meet(WIDE + quick, 3, 50, 400, 50, 400);
+        dueBegins("two of each", x, 6, 12, 9, 15);
+    }
+
+    private static void plansOfOthers() {
+        says("Of the PLAN of a day (by a SHELF, as known at k)");
+        StraitHouse x = house(NARROW + "land a;", "may peace if 1;", "may peace if tons > 1;", "may peace if tons > 2;");
+        for (int ship = 0; ship < 4; ship++) {
+            x.ship(0, ship, 10, 1, 0, 0, 0, false);
+            x.ask(ship, DAY, true, 0);
+            x.later(1);
+        }
+        int[] shelves = {0, 1, 0, 2, 1, 3, 0, 2, 0, 3, 1, 1};
+        int[] many = {4, 2, 4, 1, 2, 0, 4, 1, 4, 0, 2, 2};
+        for (int i = 0; i < shelves.length; i++) {
+            due("by " + shelves[i], x.plan(shelves[i], DAY, 0, 4), many[i]);
+            due("by " + shelves[i], x.plan(shelves[i], DAY, 1, 4), 10 * many[i] * (many[i] - 1) / 2);
+            due("by " + shelves[i] + " on another day", x.plan(shelves[i], DAY + 1, 0, 4), 0);
+            due("by " + shelves[i] + " as known at 1", x.plan(shelves[i], DAY, 0, 1), shelves[i] == 0 ? 2 : 0);
+        }
+        for (int k : new int[] {3, 0, 2, -1, 1, 3, 2, 0}) {
+            due("as known at " + k, x.plan(0, DAY, 0, k), k + 1);
+            due("by another as known at " + k, x.plan(2, DAY, 0, k), k == 3 ? 1 : 0);
+            due("the first as known at " + k, x.goes(0, DAY, 0, 0, k), k >= 0 ? 0 : -1);
+        }
     }
 
     private static void firstOfLikeOnes() {

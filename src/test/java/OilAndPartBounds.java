@@ -17,6 +17,7 @@ public final class OilAndPartBounds extends Checks {
         gunsDecksWarOfAPart();
         theOthersOfAPart();
         landOfAPart();
+        shipsOfOtherCalls();
         kindsThatDiffer();
         partAnswers();
         aboutAnswers();
@@ -123,9 +124,12 @@ public final class OilAndPartBounds extends Checks {
         }
         for (int n : new int[] {-1, 100000, MIN, MAX}) {
             refused("oil of " + n, -1, x -> x.oil(0, n, 1, 0));
+            refused("oil of " + n + " elsewhere", -1, x -> x.oil(0, n, 1, 1));
+            refused("oil of " + n + " in a sea", -1, x -> x.oil(0, n, 0, 20));
         }
         for (int n : new int[] {-1, 1001, MIN, MAX}) {
             refused("oil in steps " + n, -1, x -> x.oil(0, 5, n, 0));
+            refused("oil in steps " + n + " in a sea", -1, x -> x.oil(0, 5, n, 20));
         }
         for (int n : new int[] {-2, 4, 5, 19, 21, MIN, MAX}) {
             refused("oil in " + n, -1, x -> x.oil(0, 5, 1, n));
@@ -239,6 +243,38 @@ public final class OilAndPartBounds extends Checks {
         strait(x, "");
         convention(x, 0, "kind a is shore;");
         due("none any more", x.part(0, 1, 0), -2);
+        strait(x, "");
+        convention(x, 0, "kind a is shore;");
+        due("none still", x.part(0, 1, 0), -2);
+    }
+
+    private static void shipsOfOtherCalls() {
+        says("of SHIPS of LAND 0, length 100, draft 5, load 0 (and none that other calls asked about)");
+        String strait = "land ana;land bor shore;";
+        for (String of : new String[] {"load", "length > 100", "draft > 5", "land bor", "shore"}) {
+            StraitHouse x = house(strait, "kind a is " + of + ";may peace if 1;", "");
+            x.ship(1, 50, 400, 30, 20, 5, 9, true);
+            x.ask(0, 0, true, 0);
+            due("that ship is one", x.kind(0, 0), 0);
+            due("it is none of these", x.part(0, 1, 0), -2);
+            due("that ship is let", x.reason(0, 0, 0), 0);
+            due("it is none of these", x.part(1, 0, 0), -2);
+        }
+        StraitHouse x = house(strait, "kind a is tons > 9;", "kind a is guns > 8;", "kind a is decks > 3;", "kind a is war;");
+        int[][] pairs = {{0, 1}, {0, 2}, {0, 3}, {1, 3}, {2, 3}, {1, 2}, {0, 1}, {2, 1}, {0, 1}, {1, 0}, {3, 1}, {3, 2}};
+        // Where the first of them is of the KIND, and no other: by tons 10, guns 9, decks 4, war 1; the least is that of the last one.
+        int[][] least = {{10, 0, 0, 0}, {0, 9, 0, 0}, {0, 0, 4, 0}, {0, 0, 0, 1}};
+        for (int[] pair : pairs) {
+            int by = Math.max(pair[0], pair[1]);
+            for (int what = 0; what < 4; what++) {
+                due("part(" + pair[0] + ", " + pair[1] + ", " + what + ")", x.part(pair[0], pair[1], what), least[by][what]);
+            }
+            due("by the first", x.part(pair[0], pair[1], 4), by == pair[0] ? 0 : -1);
+            due("by the second", x.part(pair[0], pair[1], 5), by == pair[1] ? 0 : -1);
+        }
+        convention(x, 3, "kind a is tons > 9;");
+        due("a new text", x.part(0, 3, 0), -2);
+        due("a new text", x.part(3, 2, 2), 4);
     }
 
     private static void kindsThatDiffer() {

@@ -163,6 +163,8 @@ public final class ShipBounds extends Checks {
                 due("above", lone(back, of[0] + 1, 1).hits(0, false), 0);
             }
         }
+        due("1501", lone("cell depth 99 bend 7 flow 3;", 193, 1).hits(0, true), 0);
+        due("1501", lone("cell depth 99 bend 3 back 8;", 367, 1).hits(0, false), 0);
         due("1502", lone("cell depth 99 bend 3 flow 7;", 384, 1).hits(0, true), 0);
         due("1499", lone("cell depth 99 bend 3 flow 7;", 383, 1).hits(0, true), -1);
         due("no bend, the greatest current", lone("cell depth 99 bend 0 flow 9;", 400, 1).hits(0, true), -1);

@@ -38,6 +38,7 @@ public final class StraitTextBounds extends Checks {
         namesToldAlready();
         straitMakesAllNew();
         straitWithAFault();
+        gorgesOfOldStraits();
         finish();
     }
 
@@ -534,7 +535,9 @@ public final class StraitTextBounds extends Checks {
         says("The TAPE (empty then) is THE STRAIT (SHELVES are empty, SHIPS, FACTS, SIGHTINGS none then): how many lines");
         StraitHouse x = full();
         x.end(0);
+        due("what was", x.plan(0, 10, 0, 7) + x.inside(0, 10, 1, 7) + x.year(0, 0, 7), 3 + x.dues(0, 0, 7) + x.dues(0, 2, 7) + x.dues(0, 5, 7));
         due("lines", strait(x, "cell depth 40 bend 3 back 2;land p;"), 2);
+        due("is no more", x.plan(0, 10, 0, 7) + x.inside(0, 10, 1, 7) + x.year(0, 0, 7), 0);
         int[] due = {1, 1, 0, 0, 0, 7, 0};
         for (int what = 0; what < due.length; what++) {
             due("about(" + what + ")", x.about(what), due[what]);
@@ -558,6 +561,22 @@ public final class StraitTextBounds extends Checks {
         due("no cell", x.about(0), 0);
         due("no land", x.about(1), 0);
         due("no ship", x.about(2), 0);
+    }
+
+    private static void gorgesOfOldStraits() {
+        says("The TAPE is THE STRAIT");
+        StraitHouse x = new StraitHouse();
+        String narrow = "cell depth 9 bend 0 flow 0 narrow;";
+        int[] narrows = {3, 0, 0, 2, 1, 0, 0, 3, 3, 1};
+        for (int many : narrows) {
+            due("lines", strait(x, CELL + times(narrow, many) + "land a" + (many == 2 ? " shore;" : ";")), 2 + many);
+            convention(x, 0, "may peace if 1; dues 5 + shore;");
+            x.ship(0, 1, 10, 1, 0, 0, 0, false);
+            x.ask(0, 5, true, 0);
+            due("cells", x.about(0), 1 + many);
+            due("its gorge", x.plan(0, 5, 2, 0), many == 0 ? 0 : 6 + 6 * many);
+            due("its lands", x.dues(0, 0, 0), many == 2 ? 6 : 5);
+        }
     }
 
     private static void straitWithAFault() {
