@@ -1500,6 +1500,8 @@ public final class StraitHouse {
 
     /** The PASSAGES of a day that are LET, and their ORDER through THE GORGE. */
     private static final class Plan {
+        private static final int ABOVE_ANY_WAITING = 1000000;
+
         private int shelf;
         private int day;
         private int k;
@@ -1547,7 +1549,7 @@ public final class StraitHouse {
 
         void arrange(int wantedGap) {
             gap = wantedGap;
-            waiting = hasGorge ? Integer.MAX_VALUE : 0;
+            waiting = hasGorge ? ABOVE_ANY_WAITING : 0;
             if (hasGorge) {
                 tryNext(0, 0, 0);
             }

@@ -93,7 +93,7 @@ public final class FactBounds extends Checks {
 
     private static void twoHundredFacts() {
         says("FACTS, 200 at most; NONE, doing nothing, if there are 200");
-        StraitHouse x = house(OPEN, "may peace if 1;");
+        StraitHouse x = house(OPEN, "may peace if 1;dues 2;");
         x.ship(0, 1, 10, 1, 0, 0, 0, false);
         for (int i = 0; i < 200; i++) {
             due("a number", i % 2 == 0 ? x.turn(999 - i, 0) : x.ask(0, i, i % 4 == 1, 0), i);
@@ -109,6 +109,10 @@ public final class FactBounds extends Checks {
         due("the last passage", x.reason(0, 199, 0), 0);
         due("none behind it", x.reason(0, 200, 0), -1);
         due("none behind it", x.untell(200), false);
+        due("all dues of the 100 passages", x.year(0, 0, 0), 200);
+        due("none in the north", x.inside(0, 999, 1, 0), 0);
+        due("the last one of the plan", x.goes(0, 199, 0, 0, 0), 199);
+        due("no reading but that of none", x.readings(0, 199, 0), 1);
         due("the last one is untold", x.untell(199), true);
         due("that makes no room", x.turn(0, 2), -1);
         due("a new strait does", strait(x, "land a;") + x.turn(0, 2), 1);

@@ -261,20 +261,31 @@ public final class OilAndPartBounds extends Checks {
             due("it is none of these", x.part(1, 0, 0), -2);
         }
         StraitHouse x = house(strait, "kind a is tons > 9;", "kind a is guns > 8;", "kind a is decks > 3;", "kind a is war;");
-        int[][] pairs = {{0, 1}, {0, 2}, {0, 3}, {1, 3}, {2, 3}, {1, 2}, {0, 1}, {2, 1}, {0, 1}, {1, 0}, {3, 1}, {3, 2}};
-        // Where the first of them is of the KIND, and no other: by tons 10, guns 9, decks 4, war 1; the least is that of the last one.
-        int[][] least = {{10, 0, 0, 0}, {0, 9, 0, 0}, {0, 0, 4, 0}, {0, 0, 0, 1}};
-        for (int[] pair : pairs) {
-            int by = Math.max(pair[0], pair[1]);
-            for (int what = 0; what < 4; what++) {
-                due("part(" + pair[0] + ", " + pair[1] + ", " + what + ")", x.part(pair[0], pair[1], what), least[by][what]);
+        for (int a = 0; a < 4; a++) {
+            for (int b = 0; b < 12; b++) {
+                parts(x, a, b % 4);
+                parts(x, a, b / 3);
             }
-            due("by the first", x.part(pair[0], pair[1], 4), by == pair[0] ? 0 : -1);
-            due("by the second", x.part(pair[0], pair[1], 5), by == pair[1] ? 0 : -1);
+            for (int b = 0; b < 12; b++) {
+                parts(x, b % 4, a);
+                parts(x, b / 3, a);
+            }
         }
         convention(x, 3, "kind a is tons > 9;");
         due("a new text", x.part(0, 3, 0), -2);
         due("a new text", x.part(3, 2, 2), 4);
+    }
+
+    /** Where the first of two is of the KIND, and no other: by tons 10, guns 9, decks 4, war 1; the least SHIP is that of the last one. */
+    private static void parts(StraitHouse x, int a, int b) {
+        int[][] least = {{10, 0, 0, 0}, {0, 9, 0, 0}, {0, 0, 4, 0}, {0, 0, 0, 1}};
+        int by = Math.max(a, b);
+        // The number in which it is unlike those of other pairs is asked for first.
+        for (int i = by; i < by + 4; i++) {
+            due("part(" + a + ", " + b + ", " + i % 4 + ")", x.part(a, b, i % 4), a == b ? -2 : least[by][i % 4]);
+        }
+        due("by the first", x.part(a, b, 4), a == b ? -2 : by == a ? 0 : -1);
+        due("by the second", x.part(a, b, 5), a == b ? -2 : by == b ? 0 : -1);
     }
 
     private static void kindsThatDiffer() {

@@ -38,6 +38,7 @@ public final class StraitTextBounds extends Checks {
         namesToldAlready();
         straitMakesAllNew();
         straitWithAFault();
+        factsOfOldStraits();
         gorgesOfOldStraits();
         finish();
     }
@@ -561,6 +562,34 @@ public final class StraitTextBounds extends Checks {
         due("no cell", x.about(0), 0);
         due("no land", x.about(1), 0);
         due("no ship", x.about(2), 0);
+    }
+
+    private static void factsOfOldStraits() {
+        says("FACTS, SIGHTINGS none then");
+        StraitHouse x = house("land a; land b;", "may war if 1;");
+        x.ship(0, 5, 10, 1, 0, 0, 0, true);
+        for (int i = 0; i < 3; i++) {
+            x.turn(0, 2);
+            x.ask(0, i, i != 1, 0);
+            x.sight(0, i, true, -1);
+        }
+        due("it was war", x.peace(0, 0), 2);
+        due("it was inside", x.inside(0, 0, 1, 0), 1);
+        due("it was in the plan", x.plan(0, 0, 0, 0), 1);
+        due("of three sightings it was one", x.readings(0, 0, 0), 0);
+        strait(x, "land a; land b;");
+        due("a shelf anew", convention(x, 0, "may peace if 1; may war if 1;"), 2);
+        due("no war", x.peace(999, 0), 0);
+        due("no reading but that of none", x.readings(0, 0, 0), 1);
+        due("a ship", x.ship(1, 6, 10, 1, 0, 0, 0, true), 0);
+        due("none is inside", x.inside(0, 999, 1, 0), 0);
+        for (int i = 0; i < 3; i++) {
+            due("asks", x.ask(0, i, i != 1, 0), i);
+            due("in peace", x.why(0, i, 0), 0);
+            due("sightings", x.sight(0, i, true, -1), i);
+            due("those of now", x.readings(0, 0, 0), i == 0 ? 1 : 0);
+            due("no day but that of now", x.plan(0, i + 1, 0, 0), 0);
+        }
     }
 
     private static void gorgesOfOldStraits() {
